@@ -8,21 +8,44 @@ final class Check {
     private static final int MOST_TOLD = 20;
     private static int checks = 0;
     private static int wrong = 0;
+    private static String head = "";
 
     private Check() {
     }
 
-    static void due(String what, Object want, Call call) {
-        Object got;
+    /** What the checks that follow are about. */
+    static void head(String text) {
+        head = text + ": ";
+    }
+
+    /** The answer of a call, or the name of its exception. */
+    static Object answerOf(Call call) {
         try {
-            got = call.answer();
+            return call.answer();
         } catch (RuntimeException thrown) {
-            got = thrown.getClass().getName();
+            return thrown.getClass().getName();
         }
+    }
+
+    static void due(String what, Object want, Call call) {
+        Object got = answerOf(call);
         checks++;
         if (!want.equals(got)) {
-            tell(what + " answered " + got + ", due is " + want);
+            tell(head + what + " answered " + got + ", due is " + want);
         }
+    }
+
+    /** Compares texts of many lines and tells the first line that is not the same. */
+    static void same(String what, String want, String got) {
+        String[] due = want.split("\n");
+        String[] lines = got.split("\n");
+        int same = 0;
+        while (same < due.length && same < lines.length && due[same].equals(lines[same])) {
+            same++;
+        }
+        String wanted = same < due.length ? due[same] : "no more lines";
+        String seen = same < lines.length ? lines[same] : "no more lines";
+        due(what + ", line " + same, wanted, () -> seen);
     }
 
     /** The class has to be the very one: a subclass of it would be an exception of the machine's own. */

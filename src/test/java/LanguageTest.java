@@ -63,7 +63,8 @@ public final class LanguageTest {
         Pattern pattern = Pattern.compile(" {4}public (\\w+) (\\w+)\\((.*?)\\)(?: throws (.*))?;");
         Files.readString(DOCUMENT).lines().map(pattern::matcher).filter(Matcher::matches)
                 .forEach(line -> due.add(line.group(1) + " " + line.group(2) + "("
-                        + line.group(3).replaceAll("(\\w+) \\w+", "$1") + ")" + (line.group(4) == null ? "" : line.group(4))));
+                        + line.group(3).replaceAll("(\\w+) \\w+", "$1") + ")"
+                        + (line.group(4) == null ? "" : line.group(4))));
         TreeSet<String> got = new TreeSet<>();
         TreeSet<String> hidden = new TreeSet<>();
         for (Method method : RecyclingSorter.class.getDeclaredMethods()) {

@@ -8,8 +8,6 @@ public final class PromisesTest {
     private static final Class<NoSuchElementException> ELEMENT = NoSuchElementException.class;
     private static final Class<UnsupportedOperationException> UNSUPPORTED = UnsupportedOperationException.class;
     private static final Class<ArithmeticException> ARITHMETIC = ArithmeticException.class;
-    private static final int HOPPER = 10;
-    private static final int WASTE = 11;
 
     public static void main(String[] args) {
         newObject();
@@ -53,47 +51,6 @@ public final class PromisesTest {
         Check.end();
     }
 
-    /** A machine that catches all of material 0 and nothing else. */
-    private static RecyclingSorter perfect() {
-        RecyclingSorter x = new RecyclingSorter();
-        x.addMachine(0, 100, 0, 500, 0);
-        return x;
-    }
-
-    /** Has as many pure bales of material 0, with 50 kilos each. */
-    private static RecyclingSorter withBales(int bales) {
-        RecyclingSorter x = perfect();
-        for (int bale = 0; bale < bales; bale++) {
-            x.feed(0, 50);
-        }
-        x.run(200);
-        return x;
-    }
-
-    /** Makes one more bale of 50 kilos, with others in it of material 1; one look is taken, at the kilo 38. */
-    private static void mixedBale(RecyclingSorter x, int own) {
-        x.setMachine(0, 2, 90);
-        x.set(3, 1);
-        x.seed(1);
-        x.set(1, 0);
-        x.feed(0, own);
-        x.feed(1, (50 - own) * 100 / 90 + 1);
-        x.run(1);
-    }
-
-    private static int put(RecyclingSorter x, String text) {
-        int length = 0;
-        for (int letter = 0; letter < text.length(); letter++) {
-            length = x.append(text.charAt(letter));
-        }
-        return length;
-    }
-
-    private static int perform(RecyclingSorter x, String text) {
-        put(x, text);
-        return x.perform();
-    }
-
     private static void newObject() {
         RecyclingSorter x = new RecyclingSorter();
         for (int what = 0; what <= 14; what++) {
@@ -133,24 +90,24 @@ public final class PromisesTest {
     }
 
     private static void removeMachine() {
-        RecyclingSorter x = perfect();
+        RecyclingSorter x = Sorters.perfect();
         x.addMachine(1, 100, 0, 500, 0);
         x.feed(0, 20);
         x.feed(1, 30);
         x.run(1);
         Check.due("3 the last one", 30, x::removeMachine);
-        Check.due("3 back in the hopper", 30, () -> x.kilos(HOPPER, 1));
+        Check.due("3 back in the hopper", 30, () -> x.kilos(Sorters.HOPPER, 1));
         Check.due("3 the first one is still there", 20, () -> x.kilos(0, 0));
         Check.due("3 the place is free again", 1, () -> x.addMachine(2, 100, 0, 500, 0));
         Check.due("3 a new bunker is empty", 0, () -> x.kilos(1, -1));
         x.removeMachine();
         Check.due("3 then the first one", 20, x::removeMachine);
         Check.refused("3 no machines", ELEMENT, x::removeMachine);
-        Check.due("3 all in the hopper", 50, () -> x.kilos(HOPPER, -1));
+        Check.due("3 all in the hopper", 50, () -> x.kilos(Sorters.HOPPER, -1));
     }
 
     private static void exchange() {
-        RecyclingSorter x = withBales(1);
+        RecyclingSorter x = Sorters.withBales(1);
         for (int target = 1; target < 5; target++) {
             x.addMachine(target, 100, 0, 500, 0);
         }
@@ -188,7 +145,7 @@ public final class PromisesTest {
         Check.refused("5 what -1", ARGUMENT, () -> x.setMachine(0, -1, 0));
         Check.refused("5 machine and what", INDEX, () -> x.setMachine(1, 5, 0));
         Check.refused("5 machine -1", INDEX, () -> x.setMachine(-1, 0, 0));
-        RecyclingSorter y = perfect();
+        RecyclingSorter y = Sorters.perfect();
         y.feed(0, 40);
         y.run(1);
         y.setMachine(0, 0, 2);
@@ -199,7 +156,7 @@ public final class PromisesTest {
     }
 
     private static void machine() {
-        RecyclingSorter x = withBales(2);
+        RecyclingSorter x = Sorters.withBales(2);
         x.feed(0, 11);
         x.run(1);
         int[] want = {0, 100, 0, 500, 0, 11, 2};
@@ -277,7 +234,7 @@ public final class PromisesTest {
         Check.due("10 just 9999", 8, () -> x.feed(0, 1));
         Check.refused("10 full", STATE, () -> x.feed(0, 1));
         Check.due("10 the rest stays", 9999L, () -> x.account(5));
-        RecyclingSorter y = withBales(0);
+        RecyclingSorter y = Sorters.withBales(0);
         y.set(2, 200);
         y.feed(0, 100);
         y.run(1);
@@ -285,12 +242,12 @@ public final class PromisesTest {
             y.feed(1, 999);
         }
         y.removeMachine();
-        Check.due("10 the hopper can have more", 10090, () -> y.kilos(HOPPER, -1));
+        Check.due("10 the hopper can have more", 10090, () -> y.kilos(Sorters.HOPPER, -1));
         Check.refused("10 but nothing is fed then", STATE, () -> y.feed(0, 1));
     }
 
     private static void runInProportion() {
-        RecyclingSorter x = perfect();
+        RecyclingSorter x = Sorters.perfect();
         x.set(0, 10);
         x.set(1, 0);
         x.feed(0, 7);
@@ -298,7 +255,7 @@ public final class PromisesTest {
         x.feed(2, 6);
         x.run(1);
         int[] same = {3, 4, 3};
-        RecyclingSorter y = perfect();
+        RecyclingSorter y = Sorters.perfect();
         y.set(0, 3);
         y.set(1, 0);
         y.feed(0, 1);
@@ -308,12 +265,12 @@ public final class PromisesTest {
         int[] greatest = {1, 1, 2};
         for (int each = 0; each < 3; each++) {
             int material = each;
-            Check.due("11 same remainders", same[material], () -> x.kilos(HOPPER, material));
-            Check.due("11 greatest remainders", greatest[material], () -> y.kilos(HOPPER, material));
+            Check.due("11 same remainders", same[material], () -> x.kilos(Sorters.HOPPER, material));
+            Check.due("11 greatest remainders", greatest[material], () -> y.kilos(Sorters.HOPPER, material));
         }
         x.set(0, 500);
         Check.due("11 fewer than the throughput", 1, () -> x.run(1));
-        Check.due("11 all are taken", 0, () -> x.kilos(HOPPER, -1));
+        Check.due("11 all are taken", 0, () -> x.kilos(Sorters.HOPPER, -1));
     }
 
     private static void runThroughMachines() {
@@ -336,16 +293,16 @@ public final class PromisesTest {
         Check.due("11 second catch", 35, () -> x.kilos(1, 1));
         Check.due("11 second other mistake", 2, () -> x.kilos(1, 2));
         // Behind it are 41, 16 and 15.
-        Check.due("11 loop", 13, () -> x.kilos(HOPPER, 0));
-        Check.due("11 loop of the second", 5, () -> x.kilos(HOPPER, 1));
-        Check.due("11 loop of the third", 4, () -> x.kilos(HOPPER, 2));
-        Check.due("11 waste", 28, () -> x.kilos(WASTE, 0));
-        Check.due("11 waste of the second", 11, () -> x.kilos(WASTE, 1));
-        Check.due("11 waste of the third", 11, () -> x.kilos(WASTE, 2));
+        Check.due("11 loop", 13, () -> x.kilos(Sorters.HOPPER, 0));
+        Check.due("11 loop of the second", 5, () -> x.kilos(Sorters.HOPPER, 1));
+        Check.due("11 loop of the third", 4, () -> x.kilos(Sorters.HOPPER, 2));
+        Check.due("11 waste", 28, () -> x.kilos(Sorters.WASTE, 0));
+        Check.due("11 waste of the second", 11, () -> x.kilos(Sorters.WASTE, 1));
+        Check.due("11 waste of the third", 11, () -> x.kilos(Sorters.WASTE, 2));
     }
 
     private static void runMakesBales() {
-        RecyclingSorter x = perfect();
+        RecyclingSorter x = Sorters.perfect();
         x.addMachine(1, 100, 0, 500, 0);
         x.set(0, 500);
         x.set(2, 20);
@@ -360,7 +317,7 @@ public final class PromisesTest {
         Check.due("11 bales", 4L, () -> x.account(10));
         Check.due("11 an even bunker", 0, () -> x.machine(0, 5));
         Check.due("11 what is left", 5, () -> x.machine(1, 5));
-        RecyclingSorter y = perfect();
+        RecyclingSorter y = Sorters.perfect();
         y.set(0, 500);
         y.set(2, 10);
         y.feed(0, 620);
@@ -370,35 +327,35 @@ public final class PromisesTest {
     }
 
     private static void runLoopsBales() {
-        RecyclingSorter x = perfect();
+        RecyclingSorter x = Sorters.perfect();
         x.set(4, 1);
-        mixedBale(x, 38);
+        Sorters.mixedBale(x, 38);
         Check.due("11 looped", 2, () -> x.bale(0, 10));
         Check.due("11 it keeps its numbers", 38, () -> x.bale(0, 0));
-        Check.due("11 its kilos are in the hopper", 38, () -> x.kilos(HOPPER, 0));
-        Check.due("11 those of others too", 12, () -> x.kilos(HOPPER, 1));
+        Check.due("11 its kilos are in the hopper", 38, () -> x.kilos(Sorters.HOPPER, 0));
+        Check.due("11 those of others too", 12, () -> x.kilos(Sorters.HOPPER, 1));
         Check.due("11 the bunker is empty", 0, () -> x.kilos(0, -1));
         Check.due("11 it counts as made from the bunker", 1, () -> x.machine(0, 6));
-        RecyclingSorter y = perfect();
-        mixedBale(y, 38);
+        RecyclingSorter y = Sorters.perfect();
+        Sorters.mixedBale(y, 38);
         Check.due("11 not looped without looping", 0, () -> y.bale(0, 10));
-        RecyclingSorter z = perfect();
+        RecyclingSorter z = Sorters.perfect();
         z.set(4, 1);
-        mixedBale(z, 39);
+        Sorters.mixedBale(z, 39);
         Check.due("11 a better grade is not looped", 0, () -> z.bale(0, 10));
     }
 
     private static void runStops() {
-        RecyclingSorter x = perfect();
+        RecyclingSorter x = Sorters.perfect();
         Check.due("11 empty hopper", 0, () -> x.run(1));
         x.set(1, 100);
         x.feed(0, 150);
         x.feed(1, 10);
         Check.due("11 settled", 2, () -> x.run(200));
-        Check.due("11 the rest goes round", 10, () -> x.kilos(HOPPER, 1));
+        Check.due("11 the rest goes round", 10, () -> x.kilos(Sorters.HOPPER, 1));
         Check.due("11 passes", 2L, () -> x.account(12));
         Check.due("11 still settled", 0, () -> x.run(200));
-        RecyclingSorter y = perfect();
+        RecyclingSorter y = Sorters.perfect();
         y.set(0, 1);
         y.feed(0, 300);
         Check.due("11 limit", 200, () -> y.run(200));
@@ -409,7 +366,7 @@ public final class PromisesTest {
         z.feed(0, 1);
         Check.refused("11 no machines", STATE, () -> z.run(1));
         Check.refused("11 no machines and limit", ARGUMENT, () -> z.run(0));
-        RecyclingSorter w = perfect();
+        RecyclingSorter w = Sorters.perfect();
         w.feed(0, 20);
         w.run(1);
         w.set(2, 10);
@@ -429,13 +386,13 @@ public final class PromisesTest {
         x.feed(0, 1);
         Check.due("12 something to catch", false, x::isSettled);
         Check.due("12 nothing changed", 0L, () -> x.account(12));
-        RecyclingSorter y = perfect();
+        RecyclingSorter y = Sorters.perfect();
         y.feed(0, 20);
         y.run(1);
         Check.due("12 a bunker alone", true, y::isSettled);
         y.set(2, 20);
         Check.due("12 a bale to come", false, y::isSettled);
-        RecyclingSorter z = perfect();
+        RecyclingSorter z = Sorters.perfect();
         z.set(2, 10);
         z.set(0, 500);
         z.feed(0, 620);
@@ -450,14 +407,14 @@ public final class PromisesTest {
         Check.due("13 settled", 0, x::settlesAfter);
         x.feed(0, 250);
         Check.due("13 three passes", 3, x::settlesAfter);
-        Check.due("13 nothing changed", 250, () -> x.kilos(HOPPER, 0));
+        Check.due("13 nothing changed", 250, () -> x.kilos(Sorters.HOPPER, 0));
         Check.due("13 no pass was made", 0L, () -> x.account(12));
         x.set(0, 1);
         x.feed(0, 50);
         Check.due("13 just 300", 300, x::settlesAfter);
         x.feed(0, 1);
         Check.refused("13 301", ELEMENT, x::settlesAfter);
-        RecyclingSorter y = perfect();
+        RecyclingSorter y = Sorters.perfect();
         y.feed(0, 20);
         y.run(1);
         y.set(2, 20);
@@ -465,30 +422,30 @@ public final class PromisesTest {
     }
 
     private static void kilos() {
-        RecyclingSorter x = perfect();
+        RecyclingSorter x = Sorters.perfect();
         x.feed(0, 30);
         x.feed(1, 21);
         x.run(1);
         x.feed(2, 5);
         Check.due("14 bunker", 30, () -> x.kilos(0, 0));
         Check.due("14 all of a bunker", 30, () -> x.kilos(0, -1));
-        Check.due("14 hopper", 10, () -> x.kilos(HOPPER, 1));
-        Check.due("14 all of the hopper", 15, () -> x.kilos(HOPPER, -1));
-        Check.due("14 waste", 11, () -> x.kilos(WASTE, 1));
-        Check.due("14 all waste", 11, () -> x.kilos(WASTE, -1));
-        Check.due("14 no waste", 0, () -> x.kilos(WASTE, 4));
+        Check.due("14 hopper", 10, () -> x.kilos(Sorters.HOPPER, 1));
+        Check.due("14 all of the hopper", 15, () -> x.kilos(Sorters.HOPPER, -1));
+        Check.due("14 waste", 11, () -> x.kilos(Sorters.WASTE, 1));
+        Check.due("14 all waste", 11, () -> x.kilos(Sorters.WASTE, -1));
+        Check.due("14 no waste", 0, () -> x.kilos(Sorters.WASTE, 4));
         for (int place : new int[] {-1, 1, 5, 6, 9, 12}) {
             Check.refused("14 place " + place, ARGUMENT, () -> x.kilos(place, 0));
             Check.refused("14 place ahead of material", ARGUMENT, () -> x.kilos(place, 5));
         }
         Check.refused("14 material 5", INDEX, () -> x.kilos(0, 5));
-        Check.refused("14 material -2", INDEX, () -> x.kilos(HOPPER, -2));
+        Check.refused("14 material -2", INDEX, () -> x.kilos(Sorters.HOPPER, -2));
     }
 
     private static void bale() {
-        RecyclingSorter x = perfect();
-        mixedBale(x, 39);
-        mixedBale(x, 38);
+        RecyclingSorter x = Sorters.perfect();
+        Sorters.mixedBale(x, 39);
+        Sorters.mixedBale(x, 38);
         // z becomes 1103527590, whose upper half is 16838, so the look is at the kilo 38 of 50.
         int[] first = {39, 11, 0, 0, 0, 0, 50, 780, 1000, 0, 0, -1};
         int[] second = {38, 12, 0, 0, 0, 0, 50, 760, 0, 3, 0, -1};
@@ -539,9 +496,9 @@ public final class PromisesTest {
     }
 
     private static void ordered() {
-        RecyclingSorter x = withBales(1);
-        mixedBale(x, 38);
-        mixedBale(x, 39);
+        RecyclingSorter x = Sorters.withBales(1);
+        Sorters.mixedBale(x, 38);
+        Sorters.mixedBale(x, 39);
         Check.due("16 best", 0, () -> x.ordered(0));
         Check.due("16 as good, later", 2, () -> x.ordered(1));
         Check.due("16 worst", 1, () -> x.ordered(2));
@@ -554,8 +511,8 @@ public final class PromisesTest {
     }
 
     private static void stock() {
-        RecyclingSorter x = withBales(2);
-        mixedBale(x, 38);
+        RecyclingSorter x = Sorters.withBales(2);
+        Sorters.mixedBale(x, 38);
         Check.due("17 grade 0", 100, () -> x.stock(0, 0));
         Check.due("17 up to grade 2", 100, () -> x.stock(0, 2));
         Check.due("17 up to grade 3", 150, () -> x.stock(0, 3));
@@ -588,7 +545,7 @@ public final class PromisesTest {
     }
 
     private static void contractOf() {
-        RecyclingSorter x = withBales(3);
+        RecyclingSorter x = Sorters.withBales(3);
         x.contract(0, 700, 120, 9);
         x.sell(1);
         x.sell(0);
@@ -604,7 +561,7 @@ public final class PromisesTest {
     }
 
     private static void sell() {
-        RecyclingSorter x = withBales(6);
+        RecyclingSorter x = Sorters.withBales(6);
         x.contract(1, 0, 9999, 99);
         x.contract(0, 900, 50, 5);
         x.contract(0, 950, 50, 4);
@@ -633,10 +590,10 @@ public final class PromisesTest {
     }
 
     private static void sellRefused() {
-        RecyclingSorter x = withBales(1);
+        RecyclingSorter x = Sorters.withBales(1);
         refusedFor("20 no contract", x, 0, 2, 0);
         x.set(4, 1);
-        mixedBale(x, 38);
+        Sorters.mixedBale(x, 38);
         refusedFor("20 looped", x, 1, 1, 2);
         x.set(4, 0);
         x.contract(0, 800, 60, 1);
@@ -644,8 +601,8 @@ public final class PromisesTest {
         x.contract(1, 0, 9999, 1);
         x.sell(0);
         refusedFor("20 sold", x, 0, 1, 1);
-        RecyclingSorter y = perfect();
-        mixedBale(y, 38);
+        RecyclingSorter y = Sorters.perfect();
+        Sorters.mixedBale(y, 38);
         y.contract(0, 800, 60, 1);
         y.contract(0, 700, 40, 1);
         refusedFor("20 least floor", y, 0, 3, 700);
@@ -653,7 +610,7 @@ public final class PromisesTest {
         refusedFor("20 most wanted by a floor that it reaches", y, 0, 4, 30);
         y.contract(0, 0, 49, 1);
         refusedFor("20 more wanted", y, 0, 4, 49);
-        RecyclingSorter z = withBales(2);
+        RecyclingSorter z = Sorters.withBales(2);
         z.contract(0, 500, 50, 1);
         z.sell(0);
         refusedFor("20 nothing is wanted any more", z, 1, 4, 0);
@@ -661,16 +618,16 @@ public final class PromisesTest {
     }
 
     private static void sellAll() {
-        RecyclingSorter x = perfect();
-        mixedBale(x, 38);
-        mixedBale(x, 39);
+        RecyclingSorter x = Sorters.perfect();
+        Sorters.mixedBale(x, 38);
+        Sorters.mixedBale(x, 39);
         x.contract(0, 0, 60, 7);
         Check.due("21 one", 1, x::sellAll);
         Check.due("21 the best first", 1, () -> x.bale(1, 10));
         Check.due("21 the other stays", 0, () -> x.bale(0, 10));
         Check.refused("21 no report", ELEMENT, () -> x.report(0, false));
         Check.due("21 none", 0, x::sellAll);
-        RecyclingSorter y = withBales(4);
+        RecyclingSorter y = Sorters.withBales(4);
         y.contract(0, 0, 150, 1);
         y.contract(0, 0, 50, 1);
         Check.due("21 all four", 4, y::sellAll);
@@ -678,7 +635,7 @@ public final class PromisesTest {
     }
 
     private static void wouldSell() {
-        RecyclingSorter x = withBales(1);
+        RecyclingSorter x = Sorters.withBales(1);
         Check.refused("22 refused", ELEMENT, () -> x.wouldSell(0));
         Check.refused("22 no report", ELEMENT, () -> x.report(0, false));
         x.contract(0, 0, 50, 1);
@@ -692,7 +649,7 @@ public final class PromisesTest {
     }
 
     private static void report() {
-        RecyclingSorter x = withBales(2);
+        RecyclingSorter x = Sorters.withBales(2);
         Check.refused("23 none", ELEMENT, () -> x.report(0, false));
         Check.refused("23 a sale", UNSUPPORTED, () -> x.sell(1));
         Check.due("23 bale", 1, () -> x.report(0, false));
@@ -700,7 +657,7 @@ public final class PromisesTest {
         Check.refused("23 level -1", ELEMENT, () -> x.report(-1, true));
         Check.refused("23 no such bale", INDEX, () -> x.sell(2));
         Check.due("23 it stays", 1, () -> x.report(0, false));
-        Check.refused("23 a command", UNSUPPORTED, () -> perform(x, "f0=1;s0"));
+        Check.refused("23 a command", UNSUPPORTED, () -> Sorters.perform(x, "f0=1;s0"));
         int[][] want = {{9, 1}, {0, 0}, {2, 0}};
         for (int each = 0; each < 3; each++) {
             int level = each;
@@ -714,7 +671,7 @@ public final class PromisesTest {
     }
 
     private static void account() {
-        RecyclingSorter x = withBales(3);
+        RecyclingSorter x = Sorters.withBales(3);
         x.addMachine(3, 10, 0, 500, 0);
         x.feed(0, 6);
         x.feed(1, 9);
@@ -752,17 +709,17 @@ public final class PromisesTest {
     }
 
     private static void purity() {
-        RecyclingSorter x = perfect();
+        RecyclingSorter x = Sorters.perfect();
         Check.refused("25 no bales", ARITHMETIC, x::purity);
         x.set(4, 1);
-        mixedBale(x, 38);
+        Sorters.mixedBale(x, 38);
         Check.refused("25 only a looped one", ARITHMETIC, x::purity);
         x.set(4, 0);
         x.set(1, 0);
-        RecyclingSorter y = perfect();
-        mixedBale(y, 38);
+        RecyclingSorter y = Sorters.perfect();
+        Sorters.mixedBale(y, 38);
         Check.due("25 one", 38.0 / 50.0, y::purity);
-        mixedBale(y, 39);
+        Sorters.mixedBale(y, 39);
         Check.due("25 together", 77.0 / 100.0, y::purity);
         y.contract(0, 0, 50, 1);
         y.sell(0);
@@ -770,7 +727,7 @@ public final class PromisesTest {
     }
 
     private static void wasted() {
-        RecyclingSorter x = perfect();
+        RecyclingSorter x = Sorters.perfect();
         x.feed(1, 7);
         Check.due("26 none yet", 0.0f, () -> x.wasted(1));
         x.run(1);
@@ -795,32 +752,32 @@ public final class PromisesTest {
     }
 
     private static void perform() {
-        RecyclingSorter x = perfect();
-        Check.due("28 four commands", 4, () -> perform(x, "f0=100;r2;c0@500*60$9;s0"));
+        RecyclingSorter x = Sorters.perfect();
+        Check.due("28 four commands", 4, () -> Sorters.perform(x, "f0=100;r2;c0@500*60$9;s0"));
         Check.due("28 paid", 450L, () -> x.account(13));
         Check.due("28 one change", 1, x::undo);
         Check.due("28 all taken back", 0L, () -> x.account(0));
-        Check.due("28 leading zeros", 1, () -> perform(x, "f0=0007"));
-        Check.due("28 their kilos", 7, () -> x.kilos(HOPPER, 0));
+        Check.due("28 leading zeros", 1, () -> Sorters.perform(x, "f0=0007"));
+        Check.due("28 their kilos", 7, () -> x.kilos(Sorters.HOPPER, 0));
         StringBuilder most = new StringBuilder("r1");
         for (int command = 1; command < 27; command++) {
             most.append(";r1");
         }
-        Check.due("28 as long as the buffer", 80, () -> put(x, most.toString()));
+        Check.due("28 as long as the buffer", 80, () -> Sorters.put(x, most.toString()));
         Check.due("28 27 commands", 27, x::perform);
         Check.due("28 the buffer is empty", 1, () -> x.append('r'));
     }
 
     private static void performRefused() {
-        RecyclingSorter x = withBales(1);
+        RecyclingSorter x = Sorters.withBales(1);
         String[] wrong = {"f5=1", "f0=0", "f0=1000", "r0", "r201", "c5@0*1$1", "c0@1001*1$1", "c0@0*0$1", "c0@0*1$0",
             "c0@0*1$100", "s60"};
         for (String text : wrong) {
-            Check.refused("28 " + text, UNSUPPORTED, () -> perform(x, "f0=1;" + text));
+            Check.refused("28 " + text, UNSUPPORTED, () -> Sorters.perform(x, "f0=1;" + text));
             Check.refused("28 no report of " + text, ELEMENT, () -> x.report(0, false));
         }
         Check.due("28 none of them", 50L, () -> x.account(0));
-        Check.refused("28 a sale that is refused", UNSUPPORTED, () -> perform(x, "r1;c0@0*50$1;s0;s0"));
+        Check.refused("28 a sale that is refused", UNSUPPORTED, () -> Sorters.perform(x, "r1;c0@0*50$1;s0;s0"));
         Check.due("28 its number", 3, () -> x.report(0, true));
         Check.due("28 its detail", 1, () -> x.report(2, true));
         Check.due("28 the first sale is not done", 0, () -> x.bale(0, 10));
@@ -829,14 +786,14 @@ public final class PromisesTest {
     }
 
     private static void performErrors() {
-        RecyclingSorter x = perfect();
+        RecyclingSorter x = Sorters.perfect();
         String[] texts = {"", "x", "r", "r1;", "r1;;", "r1 ", ";r1", "r12345", "rx", "f", "fx", "f0", "f0x", "f00",
             "f0=", "f0=12345", "f0=1;x", "c0@5*5", "c0@5*5$", "c0@", "c01", "c0=5", "c0@5$", "s", "s-1", "s1,",
             "F0=1", "f\u0660=1", "f\u0130=1"};
         int[] positions = {0, 0, 1, 3, 3, 2, 0, 5, 1, 1, 1, 2, 2, 2, 3, 7, 5, 6, 7, 3, 2, 2, 4, 1, 1, 2, 0, 1, 1};
         for (int each = 0; each < texts.length; each++) {
             String text = texts[each];
-            Check.due("28 error of '" + text + "'", -100 - positions[each], () -> perform(x, text));
+            Check.due("28 error of '" + text + "'", -100 - positions[each], () -> Sorters.perform(x, text));
         }
         Check.due("28 nothing was fed", 0L, () -> x.account(0));
         Check.due("28 errors are no changes", 0, x::undo);
@@ -855,7 +812,7 @@ public final class PromisesTest {
         Check.refused("29 older ones are gone", STATE, x::undo);
         Check.due("29 the first two stay", 3L, () -> x.account(0));
         everyChange();
-        RecyclingSorter y = withBales(1);
+        RecyclingSorter y = Sorters.withBales(1);
         Check.refused("29 a refused sale", UNSUPPORTED, () -> y.sell(0));
         y.append('r');
         Check.due("29 is no change", 2, y::undo);
@@ -889,7 +846,7 @@ public final class PromisesTest {
         x.contract(0, 0, 100, 1);
         x.sell(0);
         x.sellAll();
-        perform(x, "r1");
+        Sorters.perform(x, "r1");
         Check.due("29 perform", 7, x::undo);
         Check.due("29 sellAll", 6, x::undo);
         Check.due("29 sold until then", 50L, () -> x.account(8));
@@ -901,7 +858,7 @@ public final class PromisesTest {
         Check.due("29 the bale is still made", 1L, () -> x.account(10));
         Check.due("29 run", 3, x::undo);
         Check.due("29 z is back too", 1L, () -> x.account(15));
-        Check.due("29 in the hopper again", 50, () -> x.kilos(HOPPER, 0));
+        Check.due("29 in the hopper again", 50, () -> x.kilos(Sorters.HOPPER, 0));
         Check.due("29 addMachine", 2, x::undo);
         Check.due("29 no machine", 0L, () -> x.account(14));
         Check.due("29 removeMachine", 1, x::undo);
@@ -914,7 +871,7 @@ public final class PromisesTest {
     private static void save() {
         RecyclingSorter x = new RecyclingSorter();
         Check.due("30 nothing made", 0, x::save);
-        RecyclingSorter y = withBales(2);
+        RecyclingSorter y = Sorters.withBales(2);
         Check.due("30 two bales", 2, y::save);
         Check.due("30 the changes stay", 3, y::undo);
         Check.due("30 it is no change", 2, y::undo);
@@ -925,7 +882,7 @@ public final class PromisesTest {
     }
 
     private static void restore() {
-        RecyclingSorter x = withBales(1);
+        RecyclingSorter x = Sorters.withBales(1);
         Check.refused("31 nothing saved", STATE, x::restore);
         x.contract(0, 0, 100, 1);
         x.seed(77);
