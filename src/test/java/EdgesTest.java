@@ -329,6 +329,32 @@ public final class EdgesTest {
         Check.due("one kilo is wasted by each pass", 300, y::settlesAfter);
         y.feed(1, 1);
         Check.refused("one kilo more", ELEMENT, y::settlesAfter);
+        settlingWithEmptyHopper();
+    }
+
+    /** It goes by the passes that would be made, though run makes none with an empty hopper. */
+    private static void settlingWithEmptyHopper() {
+        Document.about("Promise 13", "Returns after how many passes the sorter would have settled first.");
+        RecyclingSorter x = new RecyclingSorter();
+        x.addMachine(2, 10, 90, 500, 0);
+        x.set(1, 0);
+        x.feed(1, 50);
+        x.run(1);
+        Check.due("in the bunker", 45, () -> x.kilos(0, ALL));
+        Check.due("with less than a bale", 0, x::settlesAfter);
+        x.set(1, 100);
+        x.set(2, 45);
+        Check.due("a pass for the bale", 1, x::settlesAfter);
+        Check.due("not settled", false, x::isSettled);
+        x.set(4, 1);
+        // Of the looped bale 40 kilos are caught again, then 4, and the last one never.
+        Check.due("two more for what the looped bale brings back", 3, x::settlesAfter);
+        Check.due("none that is made", 0, () -> x.run(200));
+        Check.due("no bale", 0L, () -> x.account(10));
+        x.feed(0, 1);
+        Check.due("with a kilo in the hopper they are made", 3, () -> x.run(200));
+        Check.due("the looped bale", 1L, () -> x.account(10));
+        Check.due("settled", 0, x::settlesAfter);
     }
 
     private static void kilos() {

@@ -35,6 +35,7 @@ public final class LanguageTest {
                 () -> source.lines().filter(line -> line.startsWith("import")).toList());
         lookAtMethods(code);
         lookAtFace();
+        lookAtHeads(source);
         lookAtClasses();
         Check.end();
     }
@@ -81,6 +82,29 @@ public final class LanguageTest {
             String name = face.replaceAll(".* (\\w+)\\(.*", "$1");
             Check.due("private " + name, false, () -> hidden.contains(name));
         }
+    }
+
+    /** The heads of the calls and the lines ahead of groups of them, in the order of the document. */
+    private static void lookAtHeads(String source) throws IOException {
+        String document = Files.readString(DOCUMENT);
+        List<String> due = new ArrayList<>();
+        Pattern pattern = Pattern.compile(" {4}(public \\w+ (\\w+)\\(.*);");
+        document.lines().map(pattern::matcher).filter(Matcher::matches).forEach(head -> {
+            Matcher group = Pattern.compile("Ahead of the calls `" + head.group(2) + "`.*: (---- .*)\\.")
+                    .matcher(document);
+            if (group.find()) {
+                due.add(group.group(1));
+            }
+            due.add(head.group(1));
+        });
+        List<String> got = new ArrayList<>();
+        Matcher line = Pattern.compile("(?m)^ {4}(?:// (---- .*)|(public \\w+ \\w+\\([^{;]*?)\\s*\\{)$")
+                .matcher(source);
+        while (line.find() && got.size() < due.size()) {
+            got.add(line.group(1) != null ? line.group(1) : line.group(2).replaceAll("\\s+", " "));
+        }
+        Check.due("the document's heads", 30 + 6, due::size);
+        Check.same("the heads", String.join("\n", due), String.join("\n", got));
     }
 
     private static String names(Class<?>[] types) {
